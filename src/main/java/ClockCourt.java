@@ -519,7 +519,7 @@ public final class ClockCourt {
             keeperBits |= itsKind == KEEPER ? 1 << bit : 0;
             hangsOn[cell] = 1 << bit;
             for (int w = 0; w < WORDS; w++) {
-                table[cell * WORDS + w] = bit < LOW_BITS.length ? LOW_BITS[bit] : -(w >> bit - LOW_BITS.length & 1L);
+                table[cell * WORDS + w] = wordOfBit(bit, w);
             }
             bits++;
             cells++;
@@ -634,11 +634,18 @@ public final class ClockCourt {
             hangsOn[cell] = hangsOn[a] | hangsOn[b] | hangsOn[c];
             for (int w = 0; w < WORDS; w++) {
                 table[cell * WORDS + w] =
-                    word(kind[cell], table[a * WORDS + w], table[b * WORDS + w], table[c * WORDS + w]);
+                    wordOfGate(kind[cell], table[a * WORDS + w], table[b * WORDS + w], table[c * WORDS + w]);
             }
         }
 
-        private static long word(int itsKind, long a, long b, long c) {
+        private static long wordOfBit(int bit, int w) {
+            if (bit < LOW_BITS.length) {
+                return LOW_BITS[bit];
+            }
+            return (w >> bit - LOW_BITS.length & 1) == 1 ? -1 : 0;
+        }
+
+        private static long wordOfGate(int itsKind, long a, long b, long c) {
             switch (itsKind) {
                 case 0:
                     return a & b;

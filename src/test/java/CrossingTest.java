@@ -10,6 +10,7 @@ public final class CrossingTest {
         t.notHeld();
         t.stillFirst();
         t.meets();
+        t.cellsBefore();
         t.mend();
         t.mendAgain();
         t.mendRefused();
@@ -203,6 +204,47 @@ public final class CrossingTest {
         y.connect(3, y.input(0));
         kinds("two sources", y, 1, 1);
         due.is("two sources don't meet", y.crossing(0, 2), 0);
+    }
+
+    private void cellsBefore() {
+        ClockCourt x = new ClockCourt();
+        x.keeper(1, 0);
+        x.keeper(1, 0);
+        x.input(0);
+        x.keeper(1, 0);
+        x.keeper(1, 0);
+        x.connect(0, 2);
+        x.connect(1, 0);
+        x.connect(3, 2);
+        x.connect(4, 3);
+        kinds("cell 0 crosses", x, 1, 1);
+        due.is("crossing(0, 0): cell 0", x.crossing(0, 0), 0);
+        due.is("cell 3 meets cell 0", x.crossing(1, 2), 1);
+        ClockCourt y = new ClockCourt();
+        y.keeper(1, 0);
+        y.keeper(1, 0);
+        y.input(0);
+        y.connect(1, 2);
+        y.connect(0, 1);
+        kinds("used by cell 0", y, 1);
+        y.gate(4, 2, 1, 2);
+        kinds("used as y", y, 3);
+        due.is("mend(0): used as y, and by cell 0", y.mend(0), 4);
+        due.is("cell 0 has the new source", y.look(0, 2), 4);
+        due.is("PICK has the new y", y.look(3, 3), 4);
+        ClockCourt z = base();
+        z.connect(2, 1);
+        z.gate(4, 0, 0, 1);
+        kinds("used as z", z, 3);
+        due.is("mend of a plain keeper at cell 0", mendedFirst(), 2);
+    }
+
+    private static int mendedFirst() {
+        ClockCourt x = new ClockCourt();
+        x.keeper(1, 0);
+        x.input(0);
+        x.connect(0, 1);
+        return x.mend(0);
     }
 
     private void mend() {

@@ -15,6 +15,7 @@ public final class RunTest {
         t.eitherHidden();
         t.eitherByPlainOfKeepers();
         t.severalEithers();
+        t.eitherOfTenBits();
         t.bounds();
         t.boundOfClocksWithoutBits();
         t.broken();
@@ -226,6 +227,42 @@ public final class RunTest {
         due.is("without clock 1", x.moment(12, 0, 1), 1);
         due.is("either(0) of clock 2", x.either(0), 4);
         due.is("value(4)", x.value(4), 0);
+    }
+
+    private void eitherOfTenBits() {
+        // Keeper 0 samples AND of inputs 7, 8, 9; keeper 1, of the inputs' clock, samples the same.
+        ClockCourt x = new ClockCourt();
+        x.keeper(0, 0);
+        x.keeper(1, 0);
+        for (int i = 2; i < 10; i++) {
+            x.input(1);
+        }
+        x.gate(0, 7, 8, 0);
+        x.gate(0, 10, 9, 0);
+        x.connect(0, 11);
+        x.connect(1, 11);
+        int seven = 1 << 5;
+        int eight = 1 << 6;
+        int nine = 1 << 7;
+        due.is("7, 8 change, 9 is 0", x.moment(3, seven + eight, 1), 0);
+        due.is("9 changes, 7, 8 are 1", x.moment(3, seven + eight + nine, 1), 1);
+        due.is("value(0) the other", x.value(0), 1);
+        due.is("value(11)", x.value(11), 1);
+        due.is("inputs 2, 3 change alone", x.moment(3, seven + eight + nine + 3, 1), 0);
+        due.is("value(0) PLAIN", x.value(0), 1);
+        due.is("value(1) PLAIN", x.value(1), 1);
+        due.is("7 falls", x.moment(3, eight + nine, 1), 1);
+        due.is("value(0) the other again", x.value(0), 0);
+        due.is("8 falls, 7 is 0", x.moment(3, nine, 1), 0);
+        due.is("7, 8 come, 9 goes: for a while all may be 1", x.moment(3, seven + eight, 1), 1);
+        due.is("value(0) behind that", x.value(0), 1);
+        // UNLIKE of a low bit and a high one.
+        x.connect(0, x.gate(2, 2, 9, 0));
+        due.is("2 and 9 change together", x.moment(3, 1 + nine, 1), 1);
+        due.is("value(12)", x.value(12), 0);
+        due.is("value(0) of UNLIKE", x.value(0), 1);
+        due.is("neither changes", x.moment(3, 1 + nine + 14, 1), 0);
+        due.is("value(0) of both", x.value(0), 0);
     }
 
     private void bounds() {

@@ -16,6 +16,7 @@ public final class WalkTest {
         t.spentByStates();
         t.spentByMoments();
         t.notSpent();
+        t.exactly250();
         t.refusals();
         t.due.end();
     }
@@ -284,6 +285,23 @@ public final class WalkTest {
         due.is("fewest(249): it wasn't looked at, but comes from one that was", z.fewest(249), 0);
         due.is("state(249, 6)", z.state(249, 6), -2);
         due.is("state(248, 6)", z.state(248, 6), 1);
+    }
+
+    private void exactly250() {
+        ClockCourt x = new ClockCourt();
+        x.input(0);
+        x.keeper(2, 0);
+        x.connect(1, x.gate(3, 1, 0, 0));
+        x.bound(0, 1, 6);
+        x.bound(2, 0, 9);
+        due.is("walk() of 250 states", x.walk(), 250);
+        due.is("count(6) of 250 states", x.count(6), 250);
+        due.is("count(7) of 250 states", x.count(7), 1065);
+        due.is("fewest(249) of 250 states", x.fewest(249), 0);
+        due.is("state(250, 0) of 250 states", x.state(250, 0), -1);
+        x.bound(0, 1, 7);
+        due.is("walk() of more", x.walk(), -252);
+        due.is("state(249, 6) of more", x.state(249, 6), -2);
     }
 
     private void refusals() {
