@@ -486,7 +486,8 @@ final class PlainCourt {
     }
 
     int keep(int d, int what, int k) {
-        if (d < 0 || d > 7 || what != 0 && what != 1 && what != 3 && what != 4 || what == 1 && !isCell(k)) { return -1; }
+        if (d < 0 || d > 7 || what != 0 && what != 1 && what != 3 && what != 4) { return -1; }
+        if (what == 1 && !isCell(k)) { return -1; }
         Held h = new Held();
         if (what == 1) {
             h.cell = cells.get(k).copy();

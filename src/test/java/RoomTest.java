@@ -2,7 +2,8 @@ import java.lang.management.ManagementFactory;
 
 /** All calls of a run live in one room: what the dearest calls make is counted, in bytes, far below that room. */
 public final class RoomTest {
-    private static final int CALLS = 512;
+    /** Some of the 512 calls of an object make the net. */
+    private static final int CALLS = 500;
     private static final long MOST = 1 << 20;
 
     private final Due due = new Due();
