@@ -24,6 +24,7 @@ public final class CrossingTest {
         }
     }
 
+    /** Terms: "KEEPERS whose SOURCE hangs (itself, or by GATES) on a BIT of another CLOCK, by CELLS." */
     private void which() {
         ClockCourt x = new ClockCourt();
         x.input(0);
@@ -67,6 +68,10 @@ public final class CrossingTest {
         return x;
     }
 
+    /**
+     * Terms: "1 TWICE: its SOURCE is a BIT of another CLOCK, and it is USED by one KEEPER alone, of its own CLOCK
+     * (another one)."
+     */
     private void twice() {
         ClockCourt x = base();
         kinds("not used", x, 3);
@@ -111,6 +116,10 @@ public final class CrossingTest {
         return x;
     }
 
+    /**
+     * Terms: "2 HELD: its SOURCE is a PICK, y a BIT of another CLOCK, z itself, and x a KEEPER of its own CLOCK whose
+     * SOURCE is a TWICE one."
+     */
     private void held() {
         ClockCourt x = handshake();
         kinds("held", x, 1, 2);
@@ -128,6 +137,7 @@ public final class CrossingTest {
         kinds("a still bit of its own clock doesn't matter", x, 1, 2);
     }
 
+    /** Terms: "4 GLITCH: the rest.": what HELD wants, the other way. */
     private void notHeld() {
         ClockCourt x = handshake();
         x.connect(4, x.gate(4, 3, 0, 3));
@@ -154,6 +164,7 @@ public final class CrossingTest {
         kinds("another keeper of the same PICK", z, 1, 2, 4);
     }
 
+    /** Terms: "0 STILL: all BITS of other CLOCKS on which its SOURCE hangs were told to be still." */
     private void stillFirst() {
         ClockCourt x = new ClockCourt();
         x.input(0);
@@ -174,6 +185,7 @@ public final class CrossingTest {
         kinds("the other is still", x, 4, 3);
     }
 
+    /** Terms: "MEETS: two TWICE ones of one CLOCK with one SOURCE. BAD are KINDS 3, 4 and those that MEET." */
     private void meets() {
         ClockCourt x = base();
         x.connect(2, 1);
@@ -206,6 +218,7 @@ public final class CrossingTest {
         due.is("two sources don't meet", y.crossing(0, 2), 0);
     }
 
+    /** Terms: "USED is a KEEPER by GATES that have it, and KEEPERS whose SOURCE it is.": of the first cells too. */
     private void cellsBefore() {
         ClockCourt x = new ClockCourt();
         x.keeper(1, 0);
@@ -247,6 +260,10 @@ public final class CrossingTest {
         return x.mend(0);
     }
 
+    /**
+     * Promise 23: "it takes its place in all GATES and as SOURCE of all other KEEPERS: its CELL. GATES keep their
+     * numbers, though it comes behind them."
+     */
     private void mend() {
         ClockCourt x = new ClockCourt();
         x.input(0);
@@ -288,6 +305,7 @@ public final class CrossingTest {
         due.is("value(3) then", x.value(3), 0);
     }
 
+    /** Promise 23: "-3: it isn't PLAIN.": what was mended is TWICE. */
     private void mendAgain() {
         ClockCourt x = base();
         x.gate(3, 1, 0, 0);
@@ -302,6 +320,7 @@ public final class CrossingTest {
         due.is("values by gates", x.value(6), 1);
     }
 
+    /** Promise 23: "-1; -2: there are 24 CELLS, or 10 BITS; -3: it isn't PLAIN." */
     private void mendRefused() {
         ClockCourt x = base();
         due.is("mend(-1)", x.mend(-1), -1);

@@ -21,6 +21,7 @@ public final class EdgeCrossingTest {
         t.bad();
         t.mendWhatIsPlain();
         t.mendAllPlaces();
+        t.mendForTheFirstCell();
         t.mendTheLastBit();
         t.mendTheLastCell();
         t.mendRefused();
@@ -388,6 +389,16 @@ public final class EdgeCrossingTest {
         y.connect(y.keeper(2, 0), 4);
         kinds("two clocks", y, 1, 1);
         meetsAre("two clocks", y, 0, 0);
+        ClockCourt z = new ClockCourt();
+        for (int i = 0; i < 4; i++) {
+            z.keeper(1, 0);
+        }
+        z.input(0);
+        z.connect(0, 4);
+        z.connect(1, 0);
+        z.connect(3, 4);
+        z.connect(2, 3);
+        meetsAre("the first cell and another", z, 1, 1);
     }
 
     private void meetsAre(String name, ClockCourt x, long... want) {
@@ -469,6 +480,46 @@ public final class EdgeCrossingTest {
             due.is("both of the clock sample", x.moment(4, 0, 0), 0);
             due.is("the new one has what the old one was", x.value(8), first);
             due.is("the old one has what the input was", x.value(0), 0);
+        }
+    }
+
+    /**
+     * Promise 23: "of its CLOCK and value at first", "in all GATES and as SOURCE of all other KEEPERS": of the first
+     * cell too; "A GATE's value is always that of its CELLS." (Terms), behind mending too.
+     */
+    private void mendForTheFirstCell() {
+        for (int first = 0; first < 2; first++) {
+            ClockCourt x = new ClockCourt();
+            x.keeper(3, 1 - first);
+            x.input(2);
+            x.keeper(3, first);
+            x.keeper(3, 1 - first);
+            x.connect(0, 2);
+            x.connect(3, 2);
+            x.connect(2, 1);
+            for (int kind = 0; kind < 5; kind++) {
+                x.gate(kind, 2, 2, 2);
+            }
+            kinds("used by two", x, 3);
+            due.is("mend(0)", x.mend(0), 9);
+            due.is("the first cell's source", x.look(0, 2), 9);
+            due.is("value(9) at first", x.value(9), first);
+            x.moment(4, 1, 0);
+            x.moment(8, 0, 0);
+            due.is("the old one samples", x.value(2), 1);
+            due.is("the new one has what the old one was", x.value(9), first);
+            due.is("the first cell has what the new one was", x.value(0), first);
+            gatesOf(x, first);
+            x.moment(8, 0, 0);
+            due.is("the new one samples", x.value(9), 1);
+            gatesOf(x, 1);
+        }
+    }
+
+    private void gatesOf(ClockCourt x, int value) {
+        long[] want = {value, value, 0, 1 - value, value};
+        for (int kind = 0; kind < 5; kind++) {
+            due.is("gate " + kind + " of " + value, x.value(4 + kind), want[kind]);
         }
     }
 

@@ -263,7 +263,9 @@ public final class EdgeNetTest {
         for (int kind = 0; kind < 5; kind++) {
             x.gate(kind, 0, 1, 2);
         }
-        for (int i = 8; i < 24; i++) {
+        x.gate(4, 2, 0, 1);
+        x.gate(4, 1, 2, 0);
+        for (int i = 10; i < 24; i++) {
             x.gate(3, i - 1, 0, 0);
         }
         valuesOfGates(x, 0);
@@ -283,8 +285,10 @@ public final class EdgeNetTest {
         for (int kind = 0; kind < 5; kind++) {
             due.is("gate " + kind + " of " + in, x.value(3 + kind), want[kind] ? 1 : 0);
         }
-        due.is("NOT sixteen times of " + in, x.value(23), want[4] ? 1 : 0);
-        due.is("NOT fifteen times of " + in, x.value(22), want[4] ? 0 : 1);
+        due.is("PICK of the last, the first and the second of " + in, x.value(8), (c ? a : b) ? 1 : 0);
+        due.is("PICK of the second, the last and the first of " + in, x.value(9), (b ? c : a) ? 1 : 0);
+        due.is("NOT fourteen times of " + in, x.value(23), (b ? c : a) ? 1 : 0);
+        due.is("NOT thirteen times of " + in, x.value(22), (b ? c : a) ? 0 : 1);
     }
 
     /** Promise 5: "The SOURCE of a KEEPER is a CELL (any): the one before. -1." */

@@ -1,3 +1,5 @@
+import java.util.Random;
+
 /** Sentences of the document that name an edge: promises 9 to 14, and the Terms on BOUNDS, MOMENTS and PROMISES. */
 public final class EdgeRunTest {
     private static final int MAX = Integer.MAX_VALUE;
@@ -15,6 +17,7 @@ public final class EdgeRunTest {
         t.bitsOfNoKeeper();
         t.mostEithers();
         t.oneWayOfAll();
+        t.manyWays();
         t.ownClockHasItsOldValue();
         t.changingOrNot();
         t.plainOfASourceAhead();
@@ -186,6 +189,45 @@ public final class EdgeRunTest {
             due.is("nothing changes any more", x.moment(7, all, 1), 0);
             due.is("all of them go", x.moment(7, 0, 1), left == 0 ? 1 : 0);
             due.is("value(0) behind", x.value(0), 0);
+        }
+    }
+
+    /**
+     * Terms: "if its SOURCE has both values when each CHANGING BIT of another CLOCK than its own has its old, or its
+     * new (PLAIN, or chosen) value, in all ways": the source is 1 (or 0) for one number of nine inputs alone, so it has
+     * both values where those inputs that don't change have their digits of that number.
+     */
+    private void manyWays() {
+        for (int number = 0; number < 512; number++) {
+            if (Integer.bitCount(number) >= 4) {
+                manyWays(number, number % 2, number % 10);
+            }
+        }
+    }
+
+    private void manyWays(int number, int value, int keeper) {
+        ClockCourt x = new ClockCourt();
+        for (int i = 0; i < 10; i++) {
+            due.is("ten bits", i == keeper ? x.keeper(1, 1 - value) : x.input(0), i);
+        }
+        int and = -1;
+        for (int i = 0; i < 9; i++) {
+            int input = i < keeper ? i : i + 1;
+            int digit = (number >> i & 1) == 1 ? input : x.gate(3, input, 0, 0);
+            and = and < 0 ? digit : x.gate(0, and, digit, 0);
+        }
+        x.connect(keeper, value == 1 ? and : x.gate(3, and, 0, 0));
+        Random random = new Random(number);
+        int old = 0;
+        for (int m = 0; m < 60; m++) {
+            // Near to the number, so that it comes often; each digit changes in some moments and stays in others.
+            int now = number ^ random.nextInt(512) & random.nextInt(512);
+            boolean either = now != old && ((old ^ number) & ~(old ^ now)) == 0;
+            String name = number + ": from " + old + " to " + now;
+            due.is(name, x.moment(3, now, 0), either ? 1 : 0);
+            due.is(name + ": either(0)", x.either(0), either ? keeper : -1);
+            due.is(name + ": PLAIN", x.value(keeper), old == number ? value : 1 - value);
+            old = now;
         }
     }
 

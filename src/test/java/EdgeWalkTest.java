@@ -344,6 +344,21 @@ public final class EdgeWalkTest {
         x.connect(0, 0);
         due.is("walk() of one that stays", x.walk(), 1);
         countsAre("one", x, 1, 1, 1);
+        ClockCourt y = sixSamplers();
+        y.walk();
+        due.is("three of six became the other value", y.fewest(8), 3);
+        for (int i = 2; i <= 6; i++) {
+            y.connect(i, i - 1);
+        }
+        due.is("walk() of a chain", y.walk(), 128);
+        for (int k = 0; k < 128; k++) {
+            due.is("fewest(" + k + ") of a chain", y.fewest(k), 0);
+        }
+        for (int i = 2; i <= 6; i++) {
+            y.connect(i, 0);
+        }
+        due.is("walk() as at first", y.walk(), 128);
+        due.is("fewest(8) as at first", y.fewest(8), 3);
     }
 
     /** Promises 16, 17, 19, 20: "-1.": where nothing was walked there is no STATE. Promise 24: 5, 6, 7 are 0. */
@@ -445,6 +460,16 @@ public final class EdgeWalkTest {
         for (int what = 0; what < 5; what++) {
             due.is("never(0, " + what + ")", x.never(0, what), want[what]);
             due.is("never(1, " + what + ")", x.never(1, what), -2);
+        }
+        // Two inputs: the first moment that changes both goes from the beginning.
+        ClockCourt y = new ClockCourt();
+        y.input(3);
+        y.input(3);
+        y.promise(3, 0, 1);
+        due.is("walk() of two inputs", y.walk(), 4);
+        long[] first = {0, 8, 3, 0, 3};
+        for (int what = 0; what < 5; what++) {
+            due.is("never(0, " + what + ") of two inputs", y.never(0, what), first[what]);
         }
     }
 

@@ -51,6 +51,7 @@ public final class NetTest {
         due.is("never(0, 0) behind " + behind, x.never(0, 0), -3);
     }
 
+    /** Promise 1: "No CELLS, BOUNDS, PROMISES." */
     private void newObject() {
         ClockCourt x = new ClockCourt();
         for (int what = 0; what <= 7; what++) {
@@ -77,6 +78,7 @@ public final class NetTest {
         }
     }
 
+    /** Promise 2: "An INPUT of a CLOCK: its CELL. -1; -2: there are 24 CELLS, or 10 BITS." */
     private void inputs() {
         ClockCourt x = new ClockCourt();
         for (int clock : new int[] {-1, 4, MAX, MIN}) {
@@ -98,6 +100,7 @@ public final class NetTest {
         isAnew("input", y);
     }
 
+    /** Promise 3: "A KEEPER of a CLOCK, with a value at first: its CELL. -1, -2." */
     private void keepers() {
         ClockCourt x = new ClockCourt();
         due.is("keeper(-1, 0)", x.keeper(-1, 0), -1);
@@ -124,6 +127,7 @@ public final class NetTest {
         isAnew("keeper", y);
     }
 
+    /** Promise 4: "A GATE (y, z don't matter where it has none): its CELL. -1; -2: there are 24 CELLS." */
     private void gates() {
         ClockCourt x = new ClockCourt();
         due.is("gate of no cell", x.gate(3, 0, 0, 0), -1);
@@ -151,6 +155,7 @@ public final class NetTest {
         isAnew("gate", y);
     }
 
+    /** Terms: "0 AND x y, 1 OR x y, 2 UNLIKE x y, 3 NOT x, 4 PICK x y z (y if x is 1, else z)." */
     private void gateValues() {
         ClockCourt x = new ClockCourt();
         for (int i = 0; i < 3; i++) {
@@ -175,6 +180,7 @@ public final class NetTest {
         }
     }
 
+    /** Terms: "CELLS 0 .. 23, as they come; each is a bit." */
     private void fullCells() {
         ClockCourt x = new ClockCourt();
         x.input(0);
@@ -190,6 +196,7 @@ public final class NetTest {
         due.is("value(22)", x.value(22), 0);
     }
 
+    /** Promise 5: "The SOURCE of a KEEPER is a CELL (any): the one before. -1." */
     private void connects() {
         ClockCourt x = new ClockCourt();
         x.keeper(0, 1);
@@ -214,6 +221,10 @@ public final class NetTest {
         isAnew("connect", y);
     }
 
+    /**
+     * Promise 6: "A BOUND on the ticks of c between those of d (not c itself): n, or 0 for none: the one before (0:
+     * none). -1."
+     */
     private void bounds() {
         ClockCourt x = new ClockCourt();
         due.is("bound(0, 0, 1)", x.bound(0, 0, 1), -1);
@@ -235,6 +246,10 @@ public final class NetTest {
         isAnew("bound", y);
     }
 
+    /**
+     * Promise 7: "A BIT is told to be still, or not to be: whether it was. -1. (It changes nothing but KINDS of
+     * CROSSINGS.)"
+     */
     private void stills() {
         ClockCourt x = busy();
         due.is("still of a gate", x.still(1, true), -1);
@@ -250,6 +265,7 @@ public final class NetTest {
         isBusy("still", x);
     }
 
+    /** Promise 8: "A PROMISE comes (of 3: x not above y): its number. -1; -2: there are 8. (What was walked goes.)" */
     private void promises() {
         ClockCourt x = busy();
         due.is("promise(-1, 0, 0)", x.promise(-1, 0, 0), -1);
@@ -278,6 +294,7 @@ public final class NetTest {
         due.is("count(3)", x.count(3), 8);
     }
 
+    /** Promise 24: "-1 for others." */
     private void counts() {
         ClockCourt x = busy();
         long[] want = {3, 2, 1, 1, 1, 4, 4, 20, -1};
@@ -289,6 +306,10 @@ public final class NetTest {
         due.is("count(MIN)", x.count(MIN), -1);
     }
 
+    /**
+     * Promise 25: "Of a CELL: 0 KIND (0 .. 4 a GATE, 5 INPUT, 6 KEEPER), 1 CLOCK, 2 x or SOURCE, 3 y, 4 z (-2: it has
+     * none such). -1."
+     */
     private void looks() {
         ClockCourt x = new ClockCourt();
         x.input(2);

@@ -23,6 +23,7 @@ public final class RunTest {
         t.due.end();
     }
 
+    /** Promise 10: "-1: CLOCKS not 1 .. 15, another number below 0". Promise 13: "-1: CLOCKS, or c is d." */
     private void refusals() {
         ClockCourt x = new ClockCourt();
         x.input(0);
@@ -47,6 +48,7 @@ public final class RunTest {
         due.is("broken(0)", x.broken(0), -1);
     }
 
+    /** Promise 10: "-2: a BOUND would be broken; -3: it had 60." Promise 9: "how many MOMENTS it had." */
     private void longest() {
         ClockCourt x = new ClockCourt();
         x.input(0);
@@ -66,6 +68,10 @@ public final class RunTest {
         due.is("a moment from the beginning", x.moment(1, 1, 0), 0);
     }
 
+    /**
+     * Terms: "the values of the INPUTS that tick (bit i: the i-th of these, by CELLS)"; "Bits of no INPUT, KEEPER are
+     * not looked at."
+     */
     private void inputsOfClocksThatTick() {
         ClockCourt x = new ClockCourt();
         x.input(0);
@@ -90,6 +96,7 @@ public final class RunTest {
         due.is("clock 0's second input again", x.value(3), 1);
     }
 
+    /** Terms: "Each KEEPER of one that ticks samples: PLAIN it becomes what its SOURCE was ahead of the MOMENT." */
     private void onlyTicking() {
         ClockCourt x = new ClockCourt();
         x.keeper(0, 1);
@@ -106,6 +113,10 @@ public final class RunTest {
         due.is("value(2) sampled", x.value(2), 1);
     }
 
+    /**
+     * Terms: "it becomes then what is chosen: PLAIN, or the other value." Promise 12: "KEEPER i, from 0, of those that
+     * were EITHER in its latest MOMENT."
+     */
     private void eitherBySource() {
         ClockCourt x = new ClockCourt();
         x.input(0);
@@ -131,6 +142,7 @@ public final class RunTest {
         due.is("either(0) behind start", x.either(0), -1);
     }
 
+    /** Terms: "each CHANGING BIT of another CLOCK than its own": one of its own clock is none. */
     private void neverEitherOfOwnClock() {
         ClockCourt x = new ClockCourt();
         x.input(2);
@@ -140,6 +152,7 @@ public final class RunTest {
         due.is("value(1)", x.value(1), 0);
     }
 
+    /** Terms: "if its SOURCE has both values": a gate that always has one value. */
     private void neverEitherByOneBit() {
         ClockCourt x = new ClockCourt();
         x.input(0);
@@ -151,6 +164,7 @@ public final class RunTest {
         due.is("value(3)", x.value(3), 0);
     }
 
+    /** Terms: "in all ways": both values come, though the first way and the last one have the same. */
     private void eitherByTwoBits() {
         ClockCourt x = new ClockCourt();
         x.input(0);
@@ -166,6 +180,7 @@ public final class RunTest {
         due.is("value(3) PLAIN", x.value(3), 0);
     }
 
+    /** Terms: "and all other BITS have their old one". */
     private void eitherHidden() {
         ClockCourt x = new ClockCourt();
         x.input(0);
@@ -180,6 +195,7 @@ public final class RunTest {
         due.is("value(3) the other", x.value(3), 0);
     }
 
+    /** Terms: "KEEPERS whose PLAIN value is another than theirs." */
     private void eitherByPlainOfKeepers() {
         // Keeper 0 turns over; 2 samples it, 3 samples 2 by another clock.
         ClockCourt x = new ClockCourt();
@@ -206,6 +222,7 @@ public final class RunTest {
         due.is("value(3) the other", x.value(3), 0);
     }
 
+    /** Terms: "which of the KEEPERS that are EITHER become the other value (bit i: the i-th of these, by CELLS)". */
     private void severalEithers() {
         ClockCourt x = new ClockCourt();
         x.keeper(1, 0);
@@ -229,6 +246,10 @@ public final class RunTest {
         due.is("value(4)", x.value(4), 0);
     }
 
+    /**
+     * Terms: "each CHANGING BIT of another CLOCK than its own has its old, or its new (PLAIN, or chosen) value, in all
+     * ways".
+     */
     private void eitherOfTenBits() {
         // Keeper 0 samples AND of inputs 7, 8, 9; keeper 1, of the inputs' clock, samples the same.
         ClockCourt x = new ClockCourt();
@@ -265,6 +286,10 @@ public final class RunTest {
         due.is("value(0) of both", x.value(0), 0);
     }
 
+    /**
+     * Terms: "the ticks of c since the latest MOMENT in which d ticked (not of that MOMENT itself) are n at most."
+     * Promise 13: "The ticks of c that the BOUND on c, d looks at; 0 without one."
+     */
     private void bounds() {
         ClockCourt x = new ClockCourt();
         x.input(0);
@@ -295,6 +320,7 @@ public final class RunTest {
         due.is("ticks(0, 1) with one", x.ticks(0, 1), 1);
     }
 
+    /** Terms: "BOUNDS: for two CLOCKS c, d a number n (1 .. 9)": of clocks that no bit has. */
     private void boundOfClocksWithoutBits() {
         ClockCourt x = new ClockCourt();
         x.bound(3, 2, 9);
@@ -307,6 +333,10 @@ public final class RunTest {
         due.is("ticks(3, 2) behind clock 2", x.ticks(3, 2), 0);
     }
 
+    /**
+     * Promise 14: "The first MOMENT of THE RUN (from 1; 0: the beginning) by which a PROMISE was broken; -2: none.
+     * -1."
+     */
     private void broken() {
         ClockCourt x = new ClockCourt();
         x.input(0);
@@ -336,6 +366,10 @@ public final class RunTest {
         due.is("was broken before it came", x.broken(3), 1);
     }
 
+    /**
+     * Terms: "3 ONE x y: of the BITS from CELL x to CELL y at most one is another than ahead of the MOMENT (at the
+     * beginning: it is kept)."
+     */
     private void brokenOne() {
         ClockCourt x = new ClockCourt();
         x.input(0);

@@ -37,6 +37,10 @@ public final class ShelfTest {
         due.is(name + ": element behind the last", Due.element(x, d, want.length), Due.ILLEGAL_STATE);
     }
 
+    /**
+     * Promise 26: "what = 0 nothing; 1 CELL k; 3 a ROW of booleans: the values of all CELLS in THE RUN; 4 a ROW of
+     * ints: the CLOCKS of its MOMENTS, as sets: 0. -1."
+     */
     private void keep() {
         ClockCourt x = net();
         due.is("keep(-1, 0, 0)", x.keep(-1, 0, 0), -1);
@@ -72,6 +76,7 @@ public final class ShelfTest {
         due.is("it can be copied", y.copy(0, 0, 0, 0, 0), 0);
     }
 
+    /** Terms: "a CELL (as it is then)". */
     private void asItWasThen() {
         ClockCourt x = net();
         x.keep(0, 1, 2);
@@ -81,6 +86,7 @@ public final class ShelfTest {
         due.is("weight of the source now", x.weight(1), 3 + 100 + 5 + 4);
     }
 
+    /** Promise 27: "(what 3, 4; n up to 60): 0. -1; -14: n is below 0." */
     private void make() {
         ClockCourt x = new ClockCourt();
         due.is("make(-1, 3, 1)", x.make(-1, 3, 1), -1);
@@ -104,6 +110,10 @@ public final class ShelfTest {
         due.is("a refused one leaves it", Due.element(x, 0, 59), 0);
     }
 
+    /**
+     * Promise 28: "IllegalArgumentException: no such SHELF; IllegalStateException: nothing is held, it is no ROW, or
+     * has no such place."
+     */
     private void elements() {
         ClockCourt x = net();
         x.keep(0, 1, 0);
@@ -133,6 +143,10 @@ public final class ShelfTest {
         return x;
     }
 
+    /**
+     * Promise 29: "n elements of the ROW on SHELF d, from place i, come to the ROW on SHELF e, from place j (as they
+     * all were before): n."
+     */
     private void copy() {
         ClockCourt x = rows();
         due.is("copy(0, 1, 1, 0, 3)", x.copy(0, 1, 1, 0, 3), 3);
@@ -153,6 +167,10 @@ public final class ShelfTest {
         row("booleans as they were", x, 5, 0);
     }
 
+    /**
+     * Promise 29: "-1; -11: of either; -12: one is no ROW, or they are not of one kind; -13: n, i or j is below 0, or
+     * beyond either's end."
+     */
     private void copyRefused() {
         ClockCourt x = rows();
         due.is("copy(-1, ..)", x.copy(-1, 0, 1, 0, 1), -1);
@@ -181,6 +199,10 @@ public final class ShelfTest {
         row("nothing came", x, 1, 0, 0, 0);
     }
 
+    /**
+     * Promise 30: "its number and 1; of GATES 10 more, of PICKS three times that; of BITS 100 more, of KEEPERS also 5
+     * and their SOURCE. -1, -11, -12."
+     */
     private void weights() {
         ClockCourt x = net();
         x.gate(1, 0, 1, 0);
@@ -199,6 +221,7 @@ public final class ShelfTest {
         due.is("weight of ints", x.weight(0), -12);
     }
 
+    /** Promise 31: "the CLOCK of a BIT. -1, -11, -12; -15: a GATE has none." */
     private void tosses() {
         ClockCourt x = net();
         x.gate(1, 0, 1, 0);

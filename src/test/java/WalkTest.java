@@ -49,6 +49,10 @@ public final class WalkTest {
         return x;
     }
 
+    /**
+     * Promise 16: "Of STATE k: 0 the BITS' values (bit i: the i-th BIT by CELLS), 1 the STATE from which it came (-2:
+     * the beginning), 2 to 4 the CHOICES of the MOMENT that brought it". Promise 17: "The value of a CELL in STATE k."
+     */
     private void states() {
         ClockCourt x = twoSamplers();
         x.moment(1, 0, 0);
@@ -73,6 +77,7 @@ public final class WalkTest {
         }
     }
 
+    /** Promise 18: "By which a PROMISE is broken first in the walk". */
     private void never() {
         ClockCourt x = twoSamplers();
         due.is("AS", x.promise(2, 2, 3), 0);
@@ -95,6 +100,7 @@ public final class WalkTest {
         due.is("never(-1, 0)", x.never(-1, 0), -1);
     }
 
+    /** Promise 18: "what = 0 the STATE that was LOOKED AT (-2: at the beginning)". */
     private void neverAtTheBeginning() {
         ClockCourt x = twoSamplers();
         x.promise(0, 2, 0);
@@ -105,6 +111,7 @@ public final class WalkTest {
         }
     }
 
+    /** Terms: "Each time the PROMISES are looked at, too (also where the STATE was there)." */
     private void neverByAnOldState() {
         // 00, 01, 11 and back to 00: only the last moment changes both bits, and its state is there.
         ClockCourt x = new ClockCourt();
@@ -127,6 +134,10 @@ public final class WalkTest {
         due.is("broken(0) then", x.broken(0), 3);
     }
 
+    /**
+     * Promise 20: "The fewest KEEPERS that became the other value, in all MOMENTS together, on any way from the
+     * beginning to STATE k".
+     */
     private void fewest() {
         ClockCourt x = twoSamplers();
         x.walk();
@@ -144,6 +155,7 @@ public final class WalkTest {
         }
     }
 
+    /** Promise 19: "THE RUN goes from the beginning by the MOMENTS that lead to STATE k: how many." */
     private void follow() {
         ClockCourt x = twoSamplers();
         x.promise(2, 2, 3);
@@ -170,6 +182,7 @@ public final class WalkTest {
         due.is("broken(0) at the beginning", x.broken(0), -2);
     }
 
+    /** Promise 19: "-3: there are more than 60." */
     private void longWays() {
         ClockCourt x = counter(6);
         x.moment(1, 0, 0);
@@ -186,6 +199,7 @@ public final class WalkTest {
         due.is("a moment behind 60", x.moment(1, 0, 0), -3);
     }
 
+    /** Terms: "all MOMENTS that can be, by sets of CLOCKS as numbers (1 .. 15; without CLOCKS that no BIT has)". */
     private void bounds() {
         ClockCourt x = new ClockCourt();
         x.keeper(0, 0);
@@ -206,6 +220,7 @@ public final class WalkTest {
         due.is("count(7): two of them can't go on by clock 0 alone", x.count(7), 16);
     }
 
+    /** Terms: "then values of INPUTS as numbers, then KEEPERS that become the other value as numbers". */
     private void inputsFirst() {
         // Input 0, and keeper 1 of another clock that samples it: by sets, then inputs, then others.
         ClockCourt x = new ClockCourt();
@@ -222,6 +237,7 @@ public final class WalkTest {
         }
     }
 
+    /** Terms: "250 STATES and 20000 MOMENTS at most: where one more would come the walk ends, SPENT." */
     private void spentByStates() {
         ClockCourt x = new ClockCourt();
         for (int i = 0; i < 10; i++) {
@@ -252,6 +268,7 @@ public final class WalkTest {
         due.is("walk() of 1024 again", x.walk(), -252);
     }
 
+    /** Terms: "250 STATES and 20000 MOMENTS at most: where one more would come the walk ends, SPENT." */
     private void spentByMoments() {
         ClockCourt x = new ClockCourt();
         for (int i = 0; i < 7; i++) {
@@ -267,6 +284,7 @@ public final class WalkTest {
         due.is("fewest(127)", x.fewest(127), 0);
     }
 
+    /** Promise 15: "how many STATES there are; -2 less that: SPENT." */
     private void notSpent() {
         ClockCourt x = new ClockCourt();
         for (int i = 0; i < 7; i++) {
@@ -287,6 +305,7 @@ public final class WalkTest {
         due.is("state(248, 6)", z.state(248, 6), 1);
     }
 
+    /** Terms: "250 STATES and 20000 MOMENTS at most": 250 are not too many. */
     private void exactly250() {
         ClockCourt x = new ClockCourt();
         x.input(0);
@@ -304,6 +323,7 @@ public final class WalkTest {
         due.is("state(249, 6) of more", x.state(249, 6), -2);
     }
 
+    /** Promise 15: "-3: no BITS." Promises 16, 17, 19: "-1", where there is no such STATE or CELL. */
     private void refusals() {
         ClockCourt x = new ClockCourt();
         due.is("walk() without bits", x.walk(), -3);
