@@ -5,8 +5,6 @@ import java.util.function.ToLongFunction;
  * says which sentence it holds; that a refused call changed nothing is looked at with each of them (Refused).
  */
 public final class EdgeNetTest {
-    private static final int MAX = Integer.MAX_VALUE;
-    private static final int MIN = Integer.MIN_VALUE;
     private static final int[] KINDS_WITH_Y = {0, 1, 2, 4};
 
     private final Due due = new Due();
