@@ -325,6 +325,9 @@ public final class EdgeCrossingTest {
         z.connect(4, 5);
         z.gate(3, 2, 0, 0);
         kinds("x's source is PLAIN", z, 3, 4);
+        ClockCourt round = handshake();
+        round.connect(3, 4);
+        kinds("x's source is the one that would be held", round, 3, 4);
     }
 
     /** Terms: "2 HELD": two that wait for one TWICE; the asking may be of a third clock; TWICE that MEET are TWICE. */

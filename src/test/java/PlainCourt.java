@@ -409,24 +409,35 @@ final class PlainCourt {
 
     int crossings() { return all().size(); }
 
+    private boolean still(int k) {
+        return others(k).stream().allMatch(c -> cells.get(c).still);
+    }
+
+    private boolean sourceIsForeignBit(int k) {
+        Cell cell = cells.get(k);
+        return isBit(cell.x) && cells.get(cell.x).clock != cell.clock;
+    }
+
+    private boolean twice(int k) {
+        if (!all().contains(k) || still(k) || !sourceIsForeignBit(k)) { return false; }
+        List<Integer> users = new ArrayList<>();
+        for (int c = 0; c < cells.size(); c++) {
+            Cell u = cells.get(c);
+            if (u.x == k || u.y == k || u.z == k) { users.add(c); }
+        }
+        return users.size() == 1 && isKeeper(users.get(0)) && users.get(0) != k
+            && cells.get(users.get(0)).clock == cells.get(k).clock;
+    }
+
     private int kind(int k) {
         Cell cell = cells.get(k);
-        if (others(k).stream().allMatch(c -> cells.get(c).still)) { return 0; }
-        boolean foreign = isBit(cell.x) && cells.get(cell.x).clock != cell.clock;
-        if (foreign) {
-            List<Integer> users = new ArrayList<>();
-            for (int c = 0; c < cells.size(); c++) {
-                Cell u = cells.get(c);
-                if (u.x == k || u.y == k || u.z == k) { users.add(c); }
-            }
-            if (users.size() == 1 && isKeeper(users.get(0)) && users.get(0) != k
-                && cells.get(users.get(0)).clock == cell.clock) { return 1; }
-        }
+        if (still(k)) { return 0; }
+        if (twice(k)) { return 1; }
         Cell source = cells.get(cell.x);
         if (source.kind == 4 && isBit(source.y) && cells.get(source.y).clock != cell.clock && source.z == k
             && isKeeper(source.x) && cells.get(source.x).clock == cell.clock
-            && all().contains(cells.get(source.x).x) && kind(cells.get(source.x).x) == 1) { return 2; }
-        return foreign ? 3 : 4;
+            && twice(cells.get(source.x).x)) { return 2; }
+        return sourceIsForeignBit(k) ? 3 : 4;
     }
 
     private boolean meets(int k) {
